@@ -28,10 +28,12 @@ public final class StgSynth {
     private static final int NEXT_TORN = 3;
     private static final int DIGIT_EITHER = 2;
 
+    // A set of places, of signals or of codes is everywhere a number with one bit for each member.
     private final int signals;
     private final int markings;
     private final int codes;
     private final int cubes;
+    private final int[] cubeCodes = new int[MAX_CUBES];
 
     private int transitions;
     private final int[] signalOf = new int[MAX_TRANSITIONS];
@@ -39,13 +41,13 @@ public final class StgSynth {
     private final int[] preOf = new int[MAX_TRANSITIONS];
     private final int[] postOf = new int[MAX_TRANSITIONS];
 
-    // A set of signals, or of codes, is held as a number with one bit for each member.
     private int inputs;
     private int startState;
     private final int[] givenTable = new int[MAX_SIGNALS];
 
-    // What the fields from here on hold counts only while the verdict is not NOT_DONE.
     private int verdict;
+
+    // Old values stay here when the verdict is dropped, so none is answered while it is NOT_DONE.
     private boolean unsafeSeen;
     private boolean inconsistentSeen;
     private int reachedCount;
@@ -54,19 +56,18 @@ public final class StgSynth {
     private final int[] excitedInAll = new int[MAX_CODES];
     private final int[] excitedInSome = new int[MAX_CODES];
 
-    // What these four hold counts only while the verdict is OK.
+    // Worked out only where the verdict is OK, so none is answered under another one.
     private final int[] primeTotal = new int[MAX_SIGNALS];
     private final int[] coverTotal = new int[MAX_SIGNALS];
     private final int[] coverCubes = new int[COVER_ROOM];
     private final int[] coverCodes = new int[MAX_SIGNALS];
-
-    private final int[] cubeCodes = new int[MAX_CUBES];
 
     // Room for one piece of work, filled anew each time.
     private final int[] queue = new int[MAX_STATES];
     private int primeCount;
     private final int[] primeCube = new int[MAX_CUBES];
     private final byte[] fewestPrimes = new byte[CODE_SETS];
+    private final int[] drivenAt = new int[MAX_CODES];
     private int metCount;
     private final boolean[] met = new boolean[MAX_STATES];
     private int leastNonconforming;
@@ -196,7 +197,8 @@ public final class StgSynth {
         if (verdict != OK) {
             return NOT_DONE;
         }
-        tryCircuit();
+        meetStates();
+        noteFailures();
         if (leastNonconforming != BAD) {
             return NONCONFORMING;
         }
@@ -210,7 +212,8 @@ public final class StgSynth {
         if (verdict != OK) {
             return BAD;
         }
-        tryCircuit();
+        meetStates();
+        noteFailures();
         switch (kind) {
             case OK:
                 return metCount;
@@ -294,10 +297,6 @@ public final class StgSynth {
         return bit(code, signalOf[transition]) == directionOf[transition];
     }
 
-    private boolean isClean(int transition, int state) {
-        return !isUnsafe(transition, state) && !isInconsistent(transition, state);
-    }
-
     private int fire(int transition, int state) {
         int marking = (markingOf(state) & ~preOf[transition]) | postOf[transition];
         int signal = signalOf[transition];
@@ -318,7 +317,7 @@ public final class StgSynth {
     private int excitedSignals(int state) {
         int set = 0;
         for (int t = 0; t < transitions; t++) {
-            if (isEnabled(t, state) && isClean(t, state)) {
+            if (isEnabled(t, state) && !isUnsafe(t, state) && !isInconsistent(t, state)) {
                 set |= 1 << signalOf[t];
             }
         }
@@ -484,7 +483,7 @@ public final class StgSynth {
         return true;
     }
 
-    // Goes through the subsets of wanted in ascending order: what a prime leaves of a set is then counted before the set.
+    // Goes through the subsets of wanted in ascending order: what a prime leaves of a set is counted before the set.
     private void countFewestPrimes(int wanted) {
         int subsets = 1 << sizeOf(wanted);
         int set = 0;
@@ -543,18 +542,23 @@ public final class StgSynth {
         return bit(table == NO_TABLE ? coverCodes[signal] : table, code);
     }
 
-    private int drivenOutputs(int state) {
-        int code = codeOf(state);
-        int set = 0;
-        for (int signal = 0; signal < signals; signal++) {
-            if (isOutput(signal) && gateOf(signal, code) != bit(code, signal)) {
-                set |= 1 << signal;
+    private void noteDriven() {
+        for (int code = 0; code < codes; code++) {
+            drivenAt[code] = 0;
+            for (int signal = 0; signal < signals; signal++) {
+                if (isOutput(signal) && gateOf(signal, code) != bit(code, signal)) {
+                    drivenAt[code] |= 1 << signal;
+                }
             }
         }
-        return set;
     }
 
-    private void tryCircuit() {
+    private int movingSignals(int state) {
+        return inputs | drivenAt[codeOf(state)];
+    }
+
+    private void meetStates() {
+        noteDriven();
         for (int state = 0; state < MAX_STATES; state++) {
             met[state] = false;
         }
@@ -563,7 +567,6 @@ public final class StgSynth {
         for (int head = 0; head < MAX_STATES && head < metCount; head++) {
             leaveMet(queue[head]);
         }
-        noteFailures();
     }
 
     private void meet(int state) {
@@ -575,7 +578,7 @@ public final class StgSynth {
     }
 
     private void leaveMet(int state) {
-        int moving = inputs | drivenOutputs(state);
+        int moving = movingSignals(state);
         for (int t = 0; t < transitions; t++) {
             if (isEnabled(t, state) && bit(moving, signalOf[t]) == 1) {
                 int after = fire(t, state);
@@ -592,21 +595,21 @@ public final class StgSynth {
         for (int state = MAX_STATES - 1; state >= 0; state--) {
             if (met[state]) {
                 int enabled = enabledSignals(state);
-                int driven = drivenOutputs(state);
+                int driven = drivenAt[codeOf(state)];
                 leastNonconforming = (driven & ~enabled) != 0 ? state : leastNonconforming;
-                leastHazard = showsHazard(state, driven) ? state : leastHazard;
+                leastHazard = showsHazard(state) ? state : leastHazard;
                 leastStall = showsStall(enabled, driven) ? state : leastStall;
             }
         }
     }
 
-    private boolean showsHazard(int state, int driven) {
-        int moving = inputs | driven;
+    private boolean showsHazard(int state) {
+        int moving = movingSignals(state);
         for (int t = 0; t < transitions; t++) {
             if (isEnabled(t, state) && bit(moving, signalOf[t]) == 1) {
                 int after = fire(t, state);
-                int others = driven & ~(1 << signalOf[t]);
-                if ((others & ~drivenOutputs(after)) != 0) {
+                int others = drivenAt[codeOf(state)] & ~(1 << signalOf[t]);
+                if ((others & ~drivenAt[codeOf(after)]) != 0) {
                     return true;
                 }
             }
