@@ -14,7 +14,8 @@ public final class BoundaryCircuitTest {
         Boundary.promise(14, "Doesn't touch the verdict", BoundaryCircuitTest::promise14Verdict);
         Boundary.promise(14, "A table given to a signal that is later made an input is kept [...], and counts again "
             + "afterwards", BoundaryCircuitTest::promise14KeptWhileInput);
-        Boundary.promise(14, "plays no part while the signal is an input", BoundaryCircuitTest::promise14NoPartWhileInput);
+        Boundary.promise(14, "plays no part while the signal is an input",
+            BoundaryCircuitTest::promise14NoPartWhileInput);
 
         Boundary.promise(15, "from its given table if it has one", BoundaryCircuitTest::promise15Table);
         Boundary.promise(15, "else 1 iff some cube of the cover covers the code", BoundaryCircuitTest::promise15Cover);
@@ -27,7 +28,12 @@ public final class BoundaryCircuitTest {
             BoundaryCircuitTest::promise16Driven);
         Boundary.promise(16, "A STEP [...] whose signal is an input, or whose signal is a driven output",
             BoundaryCircuitTest::promise16Step);
-        Boundary.promise(16, "The MET states are the smallest set with the start state", BoundaryCircuitTest::promise16Met);
+        Boundary.promise(16, "The MET states are the smallest set with the start state",
+            BoundaryCircuitTest::promise16Met);
+        Boundary.promise(16, "and, with each of its states, every state that a step from it gives",
+            BoundaryCircuitTest::promise16MetIsClosed);
+        Boundary.promise(16, "The MET states are the smallest set [worked out anew]",
+            BoundaryCircuitTest::promise16MetAnew);
         Boundary.promise(16, "NONCONFORMING: some driven output has no enabled transition there",
             BoundaryCircuitTest::promise16Nonconforming);
         Boundary.promise(16, "HAZARD: some output is driven there, and some step from there by a transition of another "
@@ -42,9 +48,10 @@ public final class BoundaryCircuitTest {
         Boundary.promise(16, "else OK", BoundaryCircuitTest::promise16Ok);
         Boundary.promise(16, "Changes nothing", BoundaryCircuitTest::promise16ChangesNothing);
 
-        Boundary.promise(17, "16 * marking + code, at each end", BoundaryCircuitTest::promise17Ends);
+        Boundary.promise(17, "16 * marking + code [at each end]", BoundaryCircuitTest::promise17Ends);
         Boundary.promise(17, "The least", BoundaryCircuitTest::promise17Least);
-        Boundary.promise(17, "for kind OK the number of met states, from one to many", BoundaryCircuitTest::promise17Met);
+        Boundary.promise(17, "for kind OK the number of met states [from one to many]",
+            BoundaryCircuitTest::promise17Met);
         Boundary.promise(17, "BAD if no met state shows it", BoundaryCircuitTest::promise17NotShown);
         Boundary.promise(17, "for any other kind", BoundaryCircuitTest::promise17OtherKinds);
         Boundary.promise(17, "and unless the verdict is OK", BoundaryCircuitTest::promise17Verdict);
@@ -290,7 +297,8 @@ public final class BoundaryCircuitTest {
                 x.setGate(signal, 65535);
                 x.setInput(signal, true);
                 x.explore();
-                Boundary.due(signals + " signals: gate(" + signal + ", 0) of an input", x.gate(signal, 0), StgSynth.BAD);
+                Boundary.due(signals + " signals: gate(" + signal + ", 0) of an input",
+                    x.gate(signal, 0), StgSynth.BAD);
             }
         }
     }
@@ -381,6 +389,54 @@ public final class BoundaryCircuitTest {
         Boundary.due("stopped at the start: witness(OK)", ring.witness(StgSynth.OK), 1);
     }
 
+    private static void promise16MetIsClosed() {
+        // The output's branch comes first and is not met; the input's is met to its end.
+        StgSynth x = new StgSynth(6, 3);
+        x.setInput(1, true);
+        x.setInput(2, true);
+        x.addTransition(0, 1, 1, 2);
+        x.addTransition(1, 1, 1, 4);
+        x.addTransition(2, 1, 4, 8);
+        x.addTransition(1, 0, 8, 16);
+        x.setGate(0, 0);
+        x.explore();
+        Boundary.due("the branch not met: states()", x.states(), 5);
+        Boundary.due("the branch not met: witness(OK)", x.witness(StgSynth.OK), 4);
+        x.setGate(0, 1);
+        Boundary.due("both branches: witness(OK)", x.witness(StgSynth.OK), 5);
+        StgSynth many = manyMet();
+        Boundary.due("all of many: witness(OK)", many.witness(StgSynth.OK), 136);
+    }
+
+    private static void promise16MetAnew() {
+        // Signal 3 is driven at code 0, and not at the codes 8 and 15.
+        StgSynth x = new StgSynth(6, 4);
+        x.setGate(3, 0x8101);
+        x.setStart(0, 0);
+        x.explore();
+        Boundary.due("start (0, 0): verify()", x.verify(), StgSynth.NONCONFORMING);
+        x.setStart(1, 8);
+        x.explore();
+        Boundary.due("start (1, 8): verify()", x.verify(), StgSynth.OK);
+        Boundary.due("start (1, 8): witness(NONCONFORMING)", x.witness(StgSynth.NONCONFORMING), StgSynth.BAD);
+        // Now at code 15, and not at code 0.
+        x.setGate(3, 0x0100);
+        x.setStart(63, 15);
+        x.explore();
+        Boundary.due("start (63, 15): verify()", x.verify(), StgSynth.NONCONFORMING);
+        x.setStart(0, 0);
+        x.explore();
+        Boundary.due("start (0, 0): verify()", x.verify(), StgSynth.OK);
+        Boundary.due("start (0, 0): witness(NONCONFORMING)", x.witness(StgSynth.NONCONFORMING), StgSynth.BAD);
+        StgSynth gates = Boundary.explored(StgSynth.OK);
+        gates.verify();
+        gates.setGate(1, 0);
+        Boundary.due("another gate: verify()", gates.verify(), StgSynth.STALL);
+        Boundary.due("another gate: witness(OK)", gates.witness(StgSynth.OK), 2);
+        gates.setGate(1, -1);
+        Boundary.due("the cover's gate again: verify()", gates.verify(), StgSynth.OK);
+    }
+
     /**
      * Explored: signal 0 moves the mark of place 0 to place 2, signal 1 that of place 1 to place 3, in any order.
      * States (3, 0), (6, 1), (9, 2), (12, 3).
@@ -429,7 +485,8 @@ public final class BoundaryCircuitTest {
         byOutput.setGate(1, 13);
         Boundary.due("an output's step stops it: witness(HAZARD)", byOutput.witness(StgSynth.HAZARD), 48);
         byOutput.setGate(0, 10);
-        Boundary.due("the other output makes no step: witness(HAZARD)", byOutput.witness(StgSynth.HAZARD), StgSynth.BAD);
+        Boundary.due("the other output makes no step: witness(HAZARD)",
+            byOutput.witness(StgSynth.HAZARD), StgSynth.BAD);
         StgSynth stays = sideBySide(1);
         Boundary.due("driven before and after: verify()", stays.verify(), StgSynth.OK);
         stays.setGate(1, 14);

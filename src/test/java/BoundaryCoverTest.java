@@ -10,15 +10,17 @@ public final class BoundaryCoverTest {
 
     public static void main(String[] args) {
         Question primes = StgSynth::primes;
-        Boundary.promise(11, "The number of primes of an output signal, from none to many",
+        Boundary.promise(11, "The number of primes of an output signal [from none to many]",
             BoundaryCoverTest::promise11Number);
         Boundary.promise(11, "BAD unless the verdict is OK", () -> dueBadUnlessOk("primes(0)", primes));
         Boundary.promise(11, "and signal is an output", () -> dueBadForInputs("primes", primes));
         Boundary.promise(11, "in 0..S-1", () -> dueBadOutsideSignals("primes", primes));
 
         Question coverSize = StgSynth::coverSize;
-        Boundary.promise(12, "The number of primes in the cover of an output signal, from none to eight",
+        Boundary.promise(12, "The number of primes in the cover of an output signal [from none to eight]",
             BoundaryCoverTest::promise12Number);
+        Boundary.promise(12, "The number of primes in the cover [every code wants 1, every code wants 0]",
+            BoundaryCoverTest::promise12AllCodes);
         Boundary.promise(12, "BAD unless the verdict is OK", () -> dueBadUnlessOk("coverSize(0)", coverSize));
         Boundary.promise(12, "and signal is an output", () -> dueBadForInputs("coverSize", coverSize));
         Boundary.promise(12, "in 0..S-1", () -> dueBadOutsideSignals("coverSize", coverSize));
@@ -26,14 +28,14 @@ public final class BoundaryCoverTest {
         Question firstCube = (x, signal) -> x.coverCube(signal, 0);
         Boundary.promise(13, "The cube number of the k-th prime (0 the least number) of the cover",
             BoundaryCoverTest::promise13FirstToLast);
-        Boundary.promise(13, "BAD where coverSize(signal) is BAD, by the verdict",
+        Boundary.promise(13, "BAD where coverSize(signal) is BAD [by the verdict]",
             () -> dueBadUnlessOk("coverCube(0, 0)", firstCube));
-        Boundary.promise(13, "BAD where coverSize(signal) is BAD, for an input",
+        Boundary.promise(13, "BAD where coverSize(signal) is BAD [for an input]",
             () -> dueBadForInputs("first coverCube", firstCube));
-        Boundary.promise(13, "BAD where coverSize(signal) is BAD, by the range of signal",
+        Boundary.promise(13, "BAD where coverSize(signal) is BAD [by the range of signal]",
             () -> dueBadOutsideSignals("first coverCube", firstCube));
         Boundary.promise(13, "and for k outside 0 .. coverSize(signal) - 1", BoundaryCoverTest::promise13K);
-        Boundary.promise(13, "and for k outside 0 .. coverSize(signal) - 1, where that is none",
+        Boundary.promise(13, "and for k outside 0 .. coverSize(signal) - 1 [where that is none]",
             BoundaryCoverTest::promise13EmptyCover);
         Boundary.finish();
     }
@@ -139,6 +141,25 @@ public final class BoundaryCoverTest {
         Boundary.due("of 13 primes: coverSize(0)", manyPrimes().coverSize(0), 7);
     }
 
+    private static void promise12AllCodes() {
+        StgSynth ones = Boundary.allCodes(true);
+        Boundary.due("explore()", ones.explore(), StgSynth.OK);
+        StgSynth zeros = Boundary.allCodes(false);
+        Boundary.due("explore()", zeros.explore(), StgSynth.OK);
+        for (int code = 0; code < 16; code++) {
+            Boundary.due("all 1: nextValue(0, " + code + ")", ones.nextValue(0, code), 1);
+            Boundary.due("all 1: gate(0, " + code + ")", ones.gate(0, code), 1);
+            Boundary.due("all 0: nextValue(0, " + code + ")", zeros.nextValue(0, code), 0);
+            Boundary.due("all 0: gate(0, " + code + ")", zeros.gate(0, code), 0);
+        }
+        Boundary.due("all 1: primes(0)", ones.primes(0), 1);
+        Boundary.due("all 1: coverSize(0)", ones.coverSize(0), 1);
+        Boundary.due("all 1: coverCube(0, 0)", ones.coverCube(0, 0), 80);
+        Boundary.due("all 0: primes(0)", zeros.primes(0), 0);
+        Boundary.due("all 0: coverSize(0)", zeros.coverSize(0), 0);
+        Boundary.due("all 0: coverCube(0, 0)", zeros.coverCube(0, 0), StgSynth.BAD);
+    }
+
     // Promise 13.
 
     private static void promise13FirstToLast() {
@@ -170,7 +191,8 @@ public final class BoundaryCoverTest {
         StgSynth two = Boundary.explored(StgSynth.OK);
         for (int signal = 0; signal <= 1; signal++) {
             for (int k : new int[] {MIN, -16, -8, -1, 1, 8, 16, MAX}) {
-                Boundary.due("a cover of 1: coverCube(" + signal + ", " + k + ")", two.coverCube(signal, k), StgSynth.BAD);
+                Boundary.due("a cover of 1: coverCube(" + signal + ", " + k + ")",
+                    two.coverCube(signal, k), StgSynth.BAD);
             }
         }
     }

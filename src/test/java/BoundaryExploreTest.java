@@ -19,11 +19,12 @@ public final class BoundaryExploreTest {
         Boundary.promise(5, "when the verdict is there already the same is answered again",
             BoundaryExploreTest::promise5Again);
         Boundary.promise(5, "which is kept until it is dropped", BoundaryExploreTest::promise5Kept);
+        Boundary.promise(5, "Works out the reachable states [anew after a drop]", BoundaryExploreTest::promise5Anew);
 
         Boundary.promise(6, "NOT_DONE when it was never worked out", BoundaryExploreTest::promise6Never);
         Boundary.promise(6, "or was dropped", BoundaryExploreTest::promise6Dropped);
 
-        Boundary.promise(7, "The number of reachable states, from one to many", BoundaryExploreTest::promise7Number);
+        Boundary.promise(7, "The number of reachable states [from one to many]", BoundaryExploreTest::promise7Number);
         Boundary.promise(7, "BAD while the verdict is NOT_DONE", BoundaryExploreTest::promise7Bad);
 
         Boundary.promise(8, "Whether (marking, code) is a reachable state", BoundaryExploreTest::promise8EveryPair);
@@ -39,9 +40,11 @@ public final class BoundaryExploreTest {
             BoundaryExploreTest::promise9ExcitedInEvery);
         Boundary.promise(9, "b if it is excited in none of them", BoundaryExploreTest::promise9ExcitedInNone);
         Boundary.promise(9, "3 if it is excited in some of them but not in all", BoundaryExploreTest::promise9Some);
-        Boundary.promise(9, "BAD if [...]. Else [...], under each verdict", BoundaryExploreTest::promise9EachVerdict);
+        Boundary.promise(9, "2 if no reachable state has this code [the first and the last state]",
+            BoundaryExploreTest::promise9FirstAndLastState);
+        Boundary.promise(9, "BAD if [...]. Else [...] [under each verdict]", BoundaryExploreTest::promise9EachVerdict);
 
-        Boundary.promise(10, "16 * signal + code, at each end", BoundaryExploreTest::promise10Ends);
+        Boundary.promise(10, "16 * signal + code [at each end]", BoundaryExploreTest::promise10Ends);
         Boundary.promise(10, "The least", BoundaryExploreTest::promise10Least);
         Boundary.promise(10, "over output signals", BoundaryExploreTest::promise10Outputs);
         Boundary.promise(10, "BAD if there is none", BoundaryExploreTest::promise10None);
@@ -51,7 +54,7 @@ public final class BoundaryExploreTest {
 
     // Promise 5.
 
-    /** A mark goes from place 0 to place 4, while one stays in place 5; what happens at place 4 is still to be added. */
+    /** A mark goes from place 0 to place 4, one stays in place 5; what happens at place 4 is still to be added. */
     private static StgSynth row() {
         StgSynth x = new StgSynth(6, 4);
         x.setStart(33, 0);
@@ -236,6 +239,17 @@ public final class BoundaryExploreTest {
         }
     }
 
+    private static void promise5Anew() {
+        for (int verdict : Boundary.VERDICTS) {
+            StgSynth x = Boundary.explored(verdict);
+            x.setStart(0, 0);
+            Boundary.due("verdict " + verdict + ", then no marks: explore()", x.explore(), StgSynth.OK);
+            Boundary.due("verdict " + verdict + ", then no marks: states()", x.states(), 1);
+            x.setStart(verdict == StgSynth.UNSAFE ? 3 : 1, 0);
+            Boundary.due("verdict " + verdict + ", and back: explore()", x.explore(), verdict);
+        }
+    }
+
     // Promise 6.
 
     private static void promise6Never() {
@@ -313,8 +327,12 @@ public final class BoundaryExploreTest {
         Boundary.due("isReachable(0, 0)", corners.isReachable(0, 0), false);
         corners.setStart(0, 0);
         corners.explore();
-        Boundary.due("isReachable(63, 15)", corners.isReachable(63, 15), false);
+        Boundary.due("isReachable(63, 15), no longer", corners.isReachable(63, 15), false);
         Boundary.due("isReachable(0, 0)", corners.isReachable(0, 0), true);
+        corners.setStart(63, 15);
+        corners.explore();
+        Boundary.due("isReachable(63, 15), again", corners.isReachable(63, 15), true);
+        Boundary.due("isReachable(0, 0), no longer", corners.isReachable(0, 0), false);
     }
 
     private static void promise8NotDone() {
@@ -462,6 +480,20 @@ public final class BoundaryExploreTest {
                 Boundary.due("in those of " + movable + ", b " + b + ": nextValue", x.nextValue(0, b), 3);
                 Boundary.due("in those of " + movable + ", b " + b + ": verdict()", x.verdict(), StgSynth.CODING);
             }
+        }
+    }
+
+    private static void promise9FirstAndLastState() {
+        StgSynth x = new StgSynth(6, 4);
+        for (int time = 1; time <= 2; time++) {
+            x.setStart(0, 0);
+            x.explore();
+            Boundary.due("state (0, 0): nextValue(3, 0)", x.nextValue(3, 0), 0);
+            Boundary.due("state (0, 0): nextValue(3, 15)", x.nextValue(3, 15), 2);
+            x.setStart(63, 15);
+            x.explore();
+            Boundary.due("state (63, 15): nextValue(3, 0)", x.nextValue(3, 0), 2);
+            Boundary.due("state (63, 15): nextValue(3, 15)", x.nextValue(3, 15), 1);
         }
     }
 

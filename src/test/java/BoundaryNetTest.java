@@ -7,9 +7,9 @@ public final class BoundaryNetTest {
         Boundary.promise(1, "below 2 becomes 2", BoundaryNetTest::promise1TooFewPlaces);
         Boundary.promise(1, "P is places clamped into 2..6", BoundaryNetTest::promise1PlacesInRange);
         Boundary.promise(1, "above 6 becomes 6", BoundaryNetTest::promise1TooManyPlaces);
-        Boundary.promise(1, "S is signals clamped into 1..4, below", BoundaryNetTest::promise1TooFewSignals);
+        Boundary.promise(1, "S is signals clamped into 1..4 [below]", BoundaryNetTest::promise1TooFewSignals);
         Boundary.promise(1, "S is signals clamped into 1..4", BoundaryNetTest::promise1SignalsInRange);
-        Boundary.promise(1, "S is signals clamped into 1..4, above", BoundaryNetTest::promise1TooManySignals);
+        Boundary.promise(1, "S is signals clamped into 1..4 [above]", BoundaryNetTest::promise1TooManySignals);
         Boundary.promise(1, "No transitions", BoundaryNetTest::promise1NoTransitions);
         Boundary.promise(1, "every signal is an output", BoundaryNetTest::promise1EverySignalIsAnOutput);
         Boundary.promise(1, "the start is marking 1, code 0", BoundaryNetTest::promise1Start);
@@ -26,12 +26,14 @@ public final class BoundaryNetTest {
         Boundary.promise(2, "its number (0 for the first) is answered", BoundaryNetTest::promise2Numbers);
         Boundary.promise(2, "Equal transitions may be added more than once", BoundaryNetTest::promise2Equal);
 
-        Boundary.promise(3, "Makes signal an input (true) or an output (false)", BoundaryNetTest::promise3ThatSignalAlone);
+        Boundary.promise(3, "Makes signal an input (true) or an output (false)",
+            BoundaryNetTest::promise3ThatSignalAlone);
         Boundary.promise(3, "signal outside 0..S-1: refused, answers false", BoundaryNetTest::promise3Refused);
         Boundary.promise(3, "Else true", BoundaryNetTest::promise3Taken);
 
         Boundary.promise(4, "Sets the start state", BoundaryNetTest::promise4Sets);
-        Boundary.promise(4, "marking outside 0 .. 2^P - 1 [...]: refused, answers false", BoundaryNetTest::promise4Marking);
+        Boundary.promise(4, "marking outside 0 .. 2^P - 1 [...]: refused, answers false",
+            BoundaryNetTest::promise4Marking);
         Boundary.promise(4, "code outside 0 .. 2^S - 1: refused, answers false", BoundaryNetTest::promise4Code);
         Boundary.promise(4, "Else true", BoundaryNetTest::promise4Taken);
         Boundary.finish();
@@ -217,7 +219,8 @@ public final class BoundaryNetTest {
     private static void promise2Direction() {
         StgSynth x = new StgSynth(2, 1);
         for (int direction : new int[] {MIN, -2, -1, 2, 3, MAX}) {
-            Boundary.due("addTransition(0, " + direction + ", 1, 2)", x.addTransition(0, direction, 1, 2), StgSynth.BAD);
+            Boundary.due("addTransition(0, " + direction + ", 1, 2)",
+                x.addTransition(0, direction, 1, 2), StgSynth.BAD);
         }
         Boundary.due("addTransition(0, 0, 1, 2)", x.addTransition(0, 0, 1, 2), 0);
         Boundary.due("addTransition(0, 1, 1, 2)", x.addTransition(0, 1, 1, 2), 1);
@@ -383,7 +386,8 @@ public final class BoundaryNetTest {
                 Boundary.due("setStart(0, 0)", x.setStart(0, 0), true);
                 Boundary.due("setStart(0, " + lastCode + ")", x.setStart(0, lastCode), true);
                 Boundary.due("setStart(" + lastMarking + ", 0)", x.setStart(lastMarking, 0), true);
-                Boundary.due("setStart(" + lastMarking + ", " + lastCode + ")", x.setStart(lastMarking, lastCode), true);
+                Boundary.due("setStart(" + lastMarking + ", " + lastCode + ")",
+                    x.setStart(lastMarking, lastCode), true);
             }
         }
     }

@@ -26,33 +26,33 @@ public final class BoundaryRefusalTest {
     }
 
     public static void main(String[] args) {
-        Boundary.promise(18, "because a number is not as said there: addTransition (promise 2)",
+        Boundary.promise(18, "because a number is not as said there [addTransition (promise 2)]",
             BoundaryRefusalTest::promise18AddTransition);
-        Boundary.promise(18, "or a limit is reached: addTransition (promise 2)", BoundaryRefusalTest::promise18Full);
-        Boundary.promise(18, "because a number is not as said there: setInput (promise 3)",
+        Boundary.promise(18, "or a limit is reached [addTransition (promise 2)]", BoundaryRefusalTest::promise18Full);
+        Boundary.promise(18, "because a number is not as said there [setInput (promise 3)]",
             BoundaryRefusalTest::promise18SetInput);
-        Boundary.promise(18, "because a number is not as said there: setStart (promise 4)",
+        Boundary.promise(18, "because a number is not as said there [setStart (promise 4)]",
             BoundaryRefusalTest::promise18SetStart);
-        Boundary.promise(18, "because a number is not as said there: setGate (promise 14)",
+        Boundary.promise(18, "because a number is not as said there [setGate (promise 14)]",
             BoundaryRefusalTest::promise18SetGate);
-        Boundary.promise(18, "something is not there: setGate of an input (promise 14)",
+        Boundary.promise(18, "something is not there [setGate of an input (promise 14)]",
             BoundaryRefusalTest::promise18SetGateOfAnInput);
-        Boundary.promise(18, "something is not there: the verdict (promises 7 to 13 and 15 to 17)",
+        Boundary.promise(18, "something is not there [the verdict (promises 7 to 13 and 15 to 17)]",
             BoundaryRefusalTest::promise18NotDone);
-        Boundary.promise(18, "something is not there: the verdict OK (promises 11 to 13 and 15 to 17)",
+        Boundary.promise(18, "something is not there [the verdict OK (promises 11 to 13 and 15 to 17)]",
             BoundaryRefusalTest::promise18NotOk);
-        Boundary.promise(18, "because a number is not as said there: isReachable and nextValue (promises 8 and 9)",
+        Boundary.promise(18, "because a number is not as said there [isReachable and nextValue (promises 8 and 9)]",
             BoundaryRefusalTest::promise18QuestionsOfStates);
-        Boundary.promise(18, "because a number is not as said there: primes and covers (promises 11 to 13)",
+        Boundary.promise(18, "because a number is not as said there [primes and covers (promises 11 to 13)]",
             BoundaryRefusalTest::promise18QuestionsOfCovers);
-        Boundary.promise(18, "because a number is not as said there: gate (promise 15)",
+        Boundary.promise(18, "because a number is not as said there [gate (promise 15)]",
             BoundaryRefusalTest::promise18QuestionsOfGates);
-        Boundary.promise(18, "because a number is not as said there: witness (promise 17)",
+        Boundary.promise(18, "because a number is not as said there [witness (promise 17)]",
             BoundaryRefusalTest::promise18QuestionsOfWitnesses);
-        Boundary.promise(18, "something is not there: a witness, a conflict (promises 10 and 17)",
+        Boundary.promise(18, "something is not there [a witness, a conflict (promises 10 and 17)]",
             BoundaryRefusalTest::promise18NothingToShow);
-        Boundary.promise(18, "changes nothing: a hundred refused calls", BoundaryRefusalTest::promise18ManyRefused);
-        Boundary.promise(18, "changes nothing: the greatest net", BoundaryRefusalTest::promise18GreatestNet);
+        Boundary.promise(18, "changes nothing [a hundred refused calls]", BoundaryRefusalTest::promise18ManyRefused);
+        Boundary.promise(18, "changes nothing [the greatest net]", BoundaryRefusalTest::promise18GreatestNet);
         Boundary.finish();
     }
 
@@ -223,7 +223,8 @@ public final class BoundaryRefusalTest {
     }
 
     private static void promise18SetStart() {
-        int[][] bad = {{MIN, 0}, {-1, 0}, {16, 0}, {MAX, 0}, {2, MIN}, {2, -1}, {2, 4}, {2, 16}, {2, MAX}, {-1, -1}, {16, 4}};
+        int[][] bad = {{MIN, 0}, {-1, 0}, {16, 0}, {MAX, 0}, {2, MIN}, {2, -1}, {2, 4}, {2, 16}, {2, MAX}, {-1, -1},
+            {16, 4}};
         for (int[] b : bad) {
             dueRefused(everySituation(), named("setStart", b), 0, x -> x.setStart(b[0], b[1]) ? 1 : 0);
         }
@@ -348,7 +349,8 @@ public final class BoundaryRefusalTest {
     }
 
     private static void promise18GreatestNet() {
-        int[][] bad = {{4, 1, 1, 2}, {-1, 1, 1, 2}, {0, 2, 1, 2}, {0, 1, 64, 2}, {0, 1, 1, 64}, {0, 1, 0, 2}, {0, 1, 1, 0}};
+        int[][] bad = {{4, 1, 1, 2}, {-1, 1, 1, 2}, {0, 2, 1, 2}, {0, 1, 64, 2}, {0, 1, 1, 64}, {0, 1, 0, 2},
+            {0, 1, 1, 0}};
         StgSynth refused = Boundary.evenCodes();
         refused.explore();
         for (int[] b : bad) {

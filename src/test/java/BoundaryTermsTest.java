@@ -3,6 +3,8 @@ public final class BoundaryTermsTest {
     public static void main(String[] args) {
         Boundary.terms(18, "An object is used for at most 512 calls after it has been made",
             BoundaryTermsTest::the512thCallIsAnswered);
+        Boundary.terms(18, "what later calls answer is free [but each ends without throwing]",
+            BoundaryTermsTest::laterCallsEnd);
         Boundary.terms(2, "A net has P places, numbered 0 to P-1", BoundaryTermsTest::firstAndLastPlace);
         Boundary.terms(2, "and S signals, numbered 0 to S-1", BoundaryTermsTest::firstAndLastSignal);
         Boundary.terms(5, "It is ENABLED in marking m iff every place of pre is in m", BoundaryTermsTest::enabled);
@@ -16,8 +18,8 @@ public final class BoundaryTermsTest {
         Boundary.terms(7, "it is CLEAN iff it is neither", BoundaryTermsTest::clean);
         Boundary.terms(7, "REACHABLE STATES: the smallest set of states that has the start state",
             BoundaryTermsTest::reachableIsAtLeastTheStart);
-        Boundary.terms(7, "and, with each of its states, each state that firing an enabled clean transition there gives",
-            BoundaryTermsTest::reachableIsClosed);
+        Boundary.terms(7, "and, with each of its states, each state that firing an enabled clean transition there "
+            + "gives", BoundaryTermsTest::reachableIsClosed);
         Boundary.terms(9, "EXCITED in a state iff some enabled clean transition of that signal exists there",
             BoundaryTermsTest::excited);
         Boundary.terms(3, "Every signal is either an input or an output", BoundaryTermsTest::inputsFromNoneToAll);
@@ -60,6 +62,36 @@ public final class BoundaryTermsTest {
             Boundary.due("call " + call + ", verify()", verified.verify(), StgSynth.OK);
         }
         Boundary.due("call 512, witness(OK)", verified.witness(StgSynth.OK), 4);
+    }
+
+    private static void laterCallsEnd() {
+        int[] numbers = {Boundary.MIN, -65536, -2, -1, 0, 1, 2, 3, 4, 15, 16, 31, 63, 64, 65535, 65536, Boundary.MAX};
+        for (int a : numbers) {
+            StgSynth x = Boundary.evenCodes();
+            for (int b : numbers) {
+                x.addTransition(a, b, 1, 2);
+                x.addTransition(0, 1, a, b);
+                x.setInput(a, b > 0);
+                x.setStart(a, b);
+                x.setGate(a, b);
+                for (int round = 0; round < 2; round++) {
+                    x.verdict();
+                    x.states();
+                    x.isReachable(a, b);
+                    x.nextValue(a, b);
+                    x.conflict();
+                    x.primes(a);
+                    x.coverSize(a);
+                    x.coverCube(a, b);
+                    x.gate(a, b);
+                    x.verify();
+                    x.witness(b);
+                    x.explore();
+                }
+                x.setStart(22, 0);
+                x.explore();
+            }
+        }
     }
 
     // Places, signals and transitions.
@@ -144,15 +176,16 @@ public final class BoundaryTermsTest {
                     if (holdsAll(marking, pre) && !shares(marking, pre, post)) {
                         StgSynth x = oneStep(3, marking, pre, post);
                         int after = joined(marking, pre, post);
-                        String call = "marking " + marking + ", pre " + pre + ", post " + post + ": isReachable(" + after + ", 1)";
-                        Boundary.due(call, x.isReachable(after, 1), true);
-                        Boundary.due(call + ", states()", x.states(), 2);
+                        String call = "marking " + marking + ", pre " + pre + ", post " + post + ": ";
+                        Boundary.due(call + "isReachable(" + after + ", 1)", x.isReachable(after, 1), true);
+                        Boundary.due(call + "states()", x.states(), 2);
                     }
                 }
             }
         }
         StgSynth emptied = oneStep(6, 63, 63, 32);
-        Boundary.due("full marking, pre full, post the last place: isReachable(32, 1)", emptied.isReachable(32, 1), true);
+        Boundary.due("full marking, pre full, post the last place: isReachable(32, 1)",
+            emptied.isReachable(32, 1), true);
         StgSynth filled = oneStep(6, 1, 1, 63);
         Boundary.due("one mark, post full: isReachable(63, 1)", filled.isReachable(63, 1), true);
         StgSynth kept = oneStep(6, 63, 1, 1);
@@ -313,7 +346,8 @@ public final class BoundaryTermsTest {
             String was = "verdict " + verdict + ": ";
             StgSynth added = Boundary.explored(verdict);
             added.addTransition(1, 1, 15, 15);
-            Boundary.due(was + "verdict() after a transition that is never enabled", added.verdict(), StgSynth.NOT_DONE);
+            Boundary.due(was + "verdict() after a transition that is never enabled",
+                added.verdict(), StgSynth.NOT_DONE);
             Boundary.due(was + "explore() again", added.explore(), verdict);
             StgSynth output = Boundary.explored(verdict);
             output.setInput(1, false);
@@ -400,7 +434,8 @@ public final class BoundaryTermsTest {
                 StgSynth zero = Boundary.toggle(2, signals, signal);
                 zero.explore();
                 String call = signals + " signals, output " + signal;
-                Boundary.due(call + ": digit " + signal + " is 0, others 2", zero.coverCube(signal, 0), all - 2 * Boundary.power(3, signal));
+                Boundary.due(call + ": digit " + signal + " is 0, others 2",
+                    zero.coverCube(signal, 0), all - 2 * Boundary.power(3, signal));
                 for (int cause = 0; cause < signals; cause++) {
                     if (cause != signal) {
                         StgSynth one = following(signals, cause, signal);

@@ -1,4 +1,7 @@
-/** What the boundary tests share: a test for one sentence of the document, and nets that come to each verdict. */
+/**
+ * What the boundary tests share: a test for one sentence of the document, and nets that come to each verdict.
+ * A sentence is given in the document's words; what stands in brackets is not the document's.
+ */
 final class Boundary {
     static final int MIN = Integer.MIN_VALUE;
     static final int MAX = Integer.MAX_VALUE;
@@ -158,6 +161,24 @@ final class Boundary {
         x.addTransition(1, 1, 20, 24);
         x.addTransition(0, 1, 6, 36);
         x.addTransition(1, 1, 5, 16);
+        return x;
+    }
+
+    /**
+     * All 16 codes, each with one state. Signal 0, the one output, moves once, at any time, and then stays: its next
+     * value is 1 at every code if it rises, and 0 at every code if it falls.
+     */
+    static StgSynth allCodes(boolean rises) {
+        StgSynth x = new StgSynth(6, 4);
+        x.setStart(28, rises ? 0 : 1);
+        for (int signal = 1; signal < 4; signal++) {
+            x.setInput(signal, true);
+        }
+        x.addTransition(0, rises ? 1 : 0, 8, 1);
+        x.addTransition(1, 1, 12, 8);
+        x.addTransition(2, 1, 16, 32);
+        x.addTransition(2, 1, 46, 12);
+        x.addTransition(3, 1, 16, 34);
         return x;
     }
 
