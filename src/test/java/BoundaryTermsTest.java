@@ -534,6 +534,18 @@ public final class BoundaryTermsTest {
         StgSynth middleOut = net(3, new int[][] {{0, 1, 1, 2}, {2, 1, 2, 4}, {2, 1, 1, 8}, {1, 1, 4, 16}});
         Boundary.due("primes(0)", middleOut.primes(0), 3);
         dueCover(middleOut, 0, 8, 25);
+        // One of three primes is enough, and it is neither the first nor the last of them.
+        StgSynth one = net(4, new int[][] {{3, 1, 1, 2}, {1, 1, 2, 4}, {0, 1, 4, 8}, {2, 1, 8, 16}, {3, 0, 16, 32}});
+        Boundary.due("primes(0)", one.primes(0), 3);
+        dueCover(one, 0, 77);
+        // Two of four primes are enough, and the last of the four is not among them.
+        StgSynth two = net(3, new int[][] {{2, 1, 1, 2}, {1, 1, 2, 4}, {0, 1, 1, 8}, {0, 1, 2, 16}, {0, 0, 8, 1}});
+        Boundary.due("primes(0)", two.primes(0), 4);
+        dueCover(two, 0, 6, 11);
+        // Signal 2 needs both of its primes; signal 1, whose turn is before it, has three.
+        StgSynth both = net(3, new int[][] {{0, 1, 1, 2}, {1, 1, 2, 4}, {2, 1, 2, 8}, {1, 1, 8, 16}});
+        Boundary.due("primes(2)", both.primes(2), 2);
+        dueCover(both, 2, 17, 19);
     }
 
     private static void firstOfTheFewest() {
